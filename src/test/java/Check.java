@@ -1,0 +1,46 @@
+/** Looks at answers, prints those that are not as due, and ends the test with exit code 1 if there was one. */
+final class Check {
+    private int looked = 0;
+    private int wrong = 0;
+
+    void due(int promise, String call, long got, long want) {
+        looked++;
+        if (got != want) {
+            wrong++;
+            System.out.println("promise " + promise + ": " + call + " answered " + got + ", due is " + want);
+        }
+    }
+
+    void holds(String what, boolean whether) {
+        looked++;
+        if (!whether) {
+            wrong++;
+            System.out.println("does not hold: " + what);
+        }
+    }
+
+    void finish() {
+        System.out.println(looked + " looked at, " + wrong + " not as due");
+        if (wrong != 0 || looked == 0) {
+            System.exit(1);
+        }
+    }
+
+    /** The text goes to THE TEXT sign by sign, and is read: what read() answers. */
+    static int readText(BidMarket x, String text) {
+        for (int i = 0; i < text.length(); i++) {
+            x.feed(text.charAt(i));
+        }
+        return x.read();
+    }
+
+    /** A market of n with these WORTHS, row by row of the PERSONS; -1 is FORBIDDEN. */
+    static BidMarket market(int n, int... worths) {
+        BidMarket x = new BidMarket();
+        x.size(n);
+        for (int i = 0; i < worths.length; i++) {
+            x.worth(i / n, i % n, worths[i]);
+        }
+        return x;
+    }
+}
