@@ -17,6 +17,7 @@ public final class MarketTest {
         fresh();
         leave();
         toldSums();
+        toldOfEight();
         toldSure();
         toldLack();
         toldNext();
@@ -103,6 +104,10 @@ public final class MarketTest {
         due(16, "wrong(0)", z.wrong(0), 5);
         due(16, "wrong(1)", z.wrong(1), 201);
         due(16, "wrong(2)", z.wrong(2), 301);
+        BidMarket u = Check.market(2, -1, -1, 1, 1);
+        due(11, "the first has no best thing", u.auction(), 1);
+        due(16, "wrong(1)", u.wrong(1), 200);
+        due(16, "wrong(2)", u.wrong(2), 301);
     }
 
     private static void auctionIsBroken() {
@@ -137,6 +142,13 @@ public final class MarketTest {
         y.step(1);
         due(11, "all have one, but it was broken", y.auction(), -11);
         due(16, "wrong(0)", y.wrong(0), 4);
+        BidMarket z = Check.market(1, 0);
+        for (int i = 0; i < 18; i++) {
+            z.bid();
+            z.leave(0);
+        }
+        z.step(11);
+        due(11, "1890 and 111 are 2001", z.auction(), -11);
     }
 
     private static void auctionLeavesAHighPriceAlone() {
@@ -179,6 +191,9 @@ public final class MarketTest {
         due(12, "1785 and 150, and 110", y.scaled(), -12);
         due(12, "told(9)", y.told(9), 2045);
         due(16, "wrong(1)", y.wrong(1), 200);
+        y.fresh();
+        due(12, "what was broken ahead does not matter", y.scaled(), 4);
+        due(12, "told(9)", y.told(9), 463);
     }
 
     private static void fresh() {
@@ -231,7 +246,29 @@ public final class MarketTest {
         }
         due(15, "most of eight", z.told(3), 792);
         z.worth(0, 7, -1);
-        due(15, "most, 0 for one of them at least", z.told(3), 693 - 99);
+        due(15, "most, 0 for two of them", z.told(3), 792 - 198);
+        due(15, "most of one", Check.market(1, 42).told(3), 42);
+    }
+
+    private static void toldOfEight() {
+        BidMarket x = Check.market(8);
+        for (int i = 0; i < 8; i++) {
+            x.worth(i, 7 - i, 99);
+        }
+        due(15, "each takes its own: 891 less 0 and 5", x.auction(), 8);
+        due(15, "sum", x.told(2), 792);
+        due(15, "sure", x.told(4), 1);
+        due(15, "how many", x.told(8), 8);
+        due(15, "prices: the last less -896, the gain of each other", x.told(9), 7 * 896 + 1792);
+        due(13, "how many had one", x.fresh(), 8);
+        for (int i = 0; i < 64; i++) {
+            x.worth(i / 8, i % 8, -1);
+        }
+        due(28, "all are forbidden", x.count(5), 64);
+        due(15, "most", x.told(3), -5);
+        due(15, "lack", x.told(5), 1);
+        due(11, "no bids", x.auction(), 0);
+        due(16, "wrong(2)", x.wrong(2), 308);
     }
 
     private static void toldSure() {
@@ -243,6 +280,9 @@ public final class MarketTest {
         due(15, "7 is not above 2 and 5", x.told(4), 1);
         x.step(4);
         due(15, "7 is above 2 and 4", x.told(4), 0);
+        x.step(50);
+        x.leave(0);
+        due(15, "the first has none", x.told(4), 0);
         BidMarket y = Check.market(2, 0, -1, -1, -1);
         y.auction();
         due(15, "one can have none", y.told(4), 0);

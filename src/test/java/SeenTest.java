@@ -91,6 +91,11 @@ public final class SeenTest {
         x.leave(0);
         due(18, "nobody has any, all prices are 0 in it", x.fits(0, 1, 0), 9);
         due(18, "it has none", x.person(0, 0), -5);
+        BidMarket y = Check.market(2, 10, 0, 0, 0);
+        y.see(0, 0);
+        y.bid();
+        y.leave(0);
+        due(18, "the price of 35 does not count: 0 and 10", y.fits(0, 1, 0), 2);
     }
 
     /** By a STEP up to 27 PERSON 1 outbids PERSON 0, by a greater one it does not. */

@@ -18,6 +18,7 @@ public final class WorthsTest {
         readEndsTooEarly();
         readNoSuchNumber();
         readSixteenClauses();
+        readAgain();
         readByFaultChangesNothing();
         of();
         person();
@@ -216,6 +217,10 @@ public final class WorthsTest {
         fault(x, "A0=1", 0, 1, 0);
         fault(x, " a0=1", 0, 1, 0);
         fault(x, ";", 0, 1, 0);
+        fault(x, "!", 0, 1, 0);
+        fault(x, "=5", 0, 1, 0);
+        fault(x, "a!", 1, 1, 0);
+        fault(x, "a=1", 1, 1, 0);
         fault(x, "a8=1", 1, 1, 0);
         fault(x, "a/=1", 1, 1, 0);
         fault(x, "ab=1", 1, 1, 0);
@@ -272,6 +277,15 @@ public final class WorthsTest {
         fault(x, text + "1", 95, 1, 16);
     }
 
+    private static void readAgain() {
+        BidMarket x = new BidMarket();
+        Check.readText(x, "a0=12;a0=34");
+        due(6, "no byte of the text ahead of it", Check.readText(x, "a0=5"), 1);
+        due(6, "of(0, 0, 0)", x.of(0, 0, 0), 5);
+        fault(x, "a0=", 3, 1, 0);
+        due(6, "of(0, 0, 0)", x.of(0, 0, 0), 5);
+    }
+
     private static void readByFaultChangesNothing() {
         BidMarket x = new BidMarket();
         x.auction();
@@ -325,6 +339,14 @@ public final class WorthsTest {
         due(8, "no such what", x.person(0, -1), BidMarket.NONE);
         BidMarket y = Check.market(1, 0);
         due(8, "a gain of 0 is not envied", y.person(0, 2), 0);
+        y.worth(0, 0, 53);
+        y.bid();
+        due(8, "its own gain is not envied", y.person(0, 2), 0);
+        y.leave(0);
+        due(8, "a gain of 1 is envied: 106 less 105", y.person(0, 2), 1);
+        BidMarket z = Check.market(1, 0);
+        z.bid();
+        due(8, "a gain below 0, and no other thing", z.person(0, 2), 0);
     }
 
     private static void thing() {
