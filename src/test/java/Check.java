@@ -4,10 +4,14 @@ final class Check {
     private int wrong = 0;
 
     void due(int promise, String call, long got, long want) {
+        due("promise " + promise, call, got, want);
+    }
+
+    void due(String by, String call, long got, long want) {
         looked++;
         if (got != want) {
             wrong++;
-            System.out.println("promise " + promise + ": " + call + " answered " + got + ", due is " + want);
+            System.out.println(by + ": " + call + " answered " + got + ", due is " + want);
         }
     }
 
@@ -28,19 +32,41 @@ final class Check {
 
     /** The text goes to THE TEXT sign by sign, and is read: what read() answers. */
     static int readText(BidMarket x, String text) {
+        feedText(x, text);
+        return x.read();
+    }
+
+    static void feedText(BidMarket x, String text) {
         for (int i = 0; i < text.length(); i++) {
             x.feed(text.charAt(i));
         }
-        return x.read();
     }
 
     /** A market of n with these WORTHS, row by row of the PERSONS; -1 is FORBIDDEN. */
     static BidMarket market(int n, int... worths) {
         BidMarket x = new BidMarket();
+        become(x, n, worths);
+        return x;
+    }
+
+    static void become(BidMarket x, int n, int... worths) {
         x.size(n);
         for (int i = 0; i < worths.length; i++) {
             x.worth(i / n, i % n, worths[i]);
         }
-        return x;
+    }
+
+    /** The TAPE becomes a row of the sort with these items. */
+    static void row(BidMarket x, int tape, int sort, long... items) {
+        x.tape(tape, sort, items.length);
+        for (int i = 0; i < items.length; i++) {
+            x.item(tape, i, items[i]);
+        }
+    }
+
+    /** Numbers outside low .. high on both sides, the nearest and the farthest. */
+    static int[] outside(int low, int high) {
+        return new int[] {low - 1, high + 1, low - 2, high + 2, Integer.MIN_VALUE, Integer.MIN_VALUE + 1,
+            Integer.MAX_VALUE - 1, Integer.MAX_VALUE};
     }
 }

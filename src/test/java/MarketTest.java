@@ -24,6 +24,7 @@ public final class MarketTest {
         toldNone();
         wrong();
         wrongIsLeft();
+        allCallsOfAnObject();
         CHECK.finish();
     }
 
@@ -362,5 +363,14 @@ public final class MarketTest {
         x.odds(0, 0);
         x.fits(0, 0, 0);
         due(16, "what is asked leaves it", x.wrong(0), 2);
+    }
+
+    /** An object is used for at most 512 calls: the last is answered as the first. */
+    private static void allCallsOfAnObject() {
+        BidMarket x = new BidMarket();
+        for (int call = 1; call <= 512; call += 2) {
+            due(10, "bid() as call " + call, x.bid(), 0);
+            due(13, "fresh() as call " + (call + 1), x.fresh(), 1);
+        }
     }
 }
