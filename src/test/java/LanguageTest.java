@@ -38,6 +38,7 @@ public final class LanguageTest {
         words(code);
         library(code);
         methodLengths(code);
+        new CallDepth(code).hold(CHECK, 8);
         CHECK.finish();
     }
 

@@ -419,6 +419,16 @@ public final class TapesEdgesTest {
                 }
             }
         }
+        for (int i = 0; i <= 6; i++) {
+            int from = i;
+            for (int n = 0; n <= 6; n++) {
+                int many = n;
+                if (i + n > 3) {
+                    String call = "shift(1, " + i + ", 0, 0, " + n + ")";
+                    THE.leaves(rows, call + " of the shorter", x -> x.shift(1, from, 0, 0, many), PLACE);
+                }
+            }
+        }
         THE.leaves(rows, "shift(0, 3, 1, 0, 3)", x -> x.shift(0, 3, 1, 0, 3), PLACE);
         THE.leaves(rows, "shift(0, 0, 1, 1, 3)", x -> x.shift(0, 0, 1, 1, 3), PLACE);
         THE.leaves(rows, "shift(0, 0, 1, 0, -1)", x -> x.shift(0, 0, 1, 0, -1), PLACE);

@@ -29,13 +29,6 @@ public final class TapesTest {
         CHECK.due(promise, call, got, want);
     }
 
-    private static void row(BidMarket x, int tape, int sort, long... items) {
-        x.tape(tape, sort, items.length);
-        for (int i = 0; i < items.length; i++) {
-            x.item(tape, i, items[i]);
-        }
-    }
-
     private static void rowIs(int promise, BidMarket x, int tape, long... items) {
         for (int i = 0; i < items.length; i++) {
             due(promise, "item " + i + " of tape " + tape, x.peek(tape, i), items[i]);
@@ -52,20 +45,20 @@ public final class TapesTest {
 
     private static void judge() {
         BidMarket x = priced();
-        row(x, 0, 3, 23, 19);
+        Check.row(x, 0, 3, 23, 19);
         due(25, "as told", x.judge(0, 0), -5);
-        row(x, 5, 3, 7, 23, 19, 8);
+        Check.row(x, 5, 3, 7, 23, 19, 8);
         due(25, "as told from 1 on", x.judge(5, 1), -5);
         due(25, "the first is otherwise", x.judge(5, 0), 0);
-        row(x, 0, 3, 23, 20);
+        Check.row(x, 0, 3, 23, 20);
         due(25, "the second is otherwise", x.judge(0, 0), 1);
-        row(x, 0, 3, 23 + (1L << 32), 19);
+        Check.row(x, 0, 3, 23 + (1L << 32), 19);
         due(25, "all bits of a long count", x.judge(0, 0), 0);
     }
 
     private static void judgeEndsTooEarly() {
         BidMarket x = priced();
-        row(x, 0, 3, 5, 23);
+        Check.row(x, 0, 3, 5, 23);
         due(25, "one was looked at", x.judge(0, 1), 101);
         due(25, "otherwise ahead of the end", x.judge(0, 0), 0);
         due(25, "none was looked at", x.judge(0, 2), 100);
@@ -75,7 +68,7 @@ public final class TapesTest {
         due(25, "far below 0", x.judge(0, LOW), 100);
         due(25, "it holds nothing", x.judge(1, 0), 100);
         due(25, "it holds nothing, below 0", x.judge(1, -1), 100);
-        row(x, 2, 3);
+        Check.row(x, 2, 3);
         due(25, "a row of none", x.judge(2, 0), 100);
         x.size(8);
         x.tape(3, 3, 60);
@@ -196,7 +189,7 @@ public final class TapesTest {
             due(29, "the last is 0", x.peek(sort, 59), 0);
             due(29, "no place behind it", x.peek(sort, 60), NO);
         }
-        row(x, 5, 3, 1, 2, 3);
+        Check.row(x, 5, 3, 1, 2, 3);
         x.tape(5, 3, 2);
         rowIs(29, x, 5, 0, 0);
         due(29, "a row of none", x.tape(5, 0, 0), 1);
@@ -209,7 +202,7 @@ public final class TapesTest {
 
     private static void tapeRefuses() {
         BidMarket x = new BidMarket();
-        row(x, 0, 1, 5);
+        Check.row(x, 0, 1, 5);
         for (int tape : NO_TAPES) {
             due(29, "no such tape", x.tape(tape, 9, -1), BidMarket.NONE);
         }
@@ -250,7 +243,7 @@ public final class TapesTest {
             due(30, "no such tape", x.item(tape, -1, 5), BidMarket.NONE);
         }
         due(30, "nothing is there", x.item(0, -1, 5), NOTHING);
-        row(x, 0, 2, 4, 4);
+        Check.row(x, 0, 2, 4, 4);
         int[] places = {-1, 2, 60, LOW, HIGH};
         for (int place : places) {
             due(30, "no such place", x.item(0, place, 5), PLACE);
@@ -261,7 +254,7 @@ public final class TapesTest {
     private static void peek() {
         BidMarket x = new BidMarket();
         due(31, "nothing there", x.peek(0, 0), NO);
-        row(x, 0, 3, -7, 8);
+        Check.row(x, 0, 3, -7, 8);
         rowIs(31, x, 0, -7, 8);
         int[] places = {-1, 2, LOW, HIGH};
         for (int place : places) {
@@ -276,8 +269,8 @@ public final class TapesTest {
 
     private static void shift() {
         BidMarket x = new BidMarket();
-        row(x, 0, 2, 1, 2, 3, 4);
-        row(x, 1, 2, 10, 20, 30);
+        Check.row(x, 0, 2, 1, 2, 3, 4);
+        Check.row(x, 1, 2, 10, 20, 30);
         due(32, "two items", x.shift(0, 1, 1, 0, 2), 2);
         rowIs(32, x, 1, 2, 3, 30);
         rowIs(32, x, 0, 1, 2, 3, 4);
@@ -288,7 +281,7 @@ public final class TapesTest {
 
     private static void shiftOverItself() {
         BidMarket x = new BidMarket();
-        row(x, 0, 0, 1, 2, 3, 4, 5);
+        Check.row(x, 0, 0, 1, 2, 3, 4, 5);
         due(32, "upwards", x.shift(0, 0, 0, 1, 4), 4);
         rowIs(32, x, 0, 1, 1, 2, 3, 4);
         due(32, "downwards", x.shift(0, 1, 0, 0, 4), 4);
@@ -299,9 +292,9 @@ public final class TapesTest {
 
     private static void shiftRefuses() {
         BidMarket x = new BidMarket();
-        row(x, 0, 2, 1, 2, 3);
-        row(x, 1, 2, 4, 5);
-        row(x, 2, 3, 6, 7);
+        Check.row(x, 0, 2, 1, 2, 3);
+        Check.row(x, 1, 2, 4, 5);
+        Check.row(x, 2, 3, 6, 7);
         for (int tape : NO_TAPES) {
             due(32, "no such tape", x.shift(tape, 0, 0, 0, 1), BidMarket.NONE);
             due(32, "no such other", x.shift(5, 0, tape, 0, 1), BidMarket.NONE);

@@ -84,7 +84,8 @@ public final class TermsAskedTest {
     }
 
     private static void most() {
-        THE.says(ASKED, "MOST: the greatest SUM there can be, were each to have one that isn't FORBIDDEN, no two the same");
+        THE.says(ASKED, "MOST: the greatest SUM there can be, were each to have one that isn't FORBIDDEN, no two the "
+                + "same");
         THE.due("all 0", Check.market(8).told(3), 0);
         THE.due("all 0 of one", Check.market(1).told(3), 0);
         THE.due("99 of one", Check.market(1, 99).told(3), 99);
@@ -160,8 +161,8 @@ public final class TermsAskedTest {
         THE.due("but what is forbidden", x.person(1, 2), 3);
         THE.due("0 is not greater", x.person(2, 2), 0);
         THE.due("all are forbidden", x.person(3, 2), 0);
-        THE.says(ASKED, "ENVY of a PERSON: how many THINGS there are, not FORBIDDEN, by which GAIN is greater than by its "
-                + "own");
+        THE.says(ASKED, "ENVY of a PERSON: how many THINGS there are, not FORBIDDEN, by which GAIN is greater than by "
+                + "its own");
         x.bid();
         THE.due("20 less 10 is its own: 5, 10, 15", x.person(0, 2), 1);
         THE.due("the price counts for the other: 10, 15, 10", x.person(1, 2), 3);
@@ -176,8 +177,8 @@ public final class TermsAskedTest {
 
     /** For each number of PERSONS: so many for one THING less, and of any fewer of them as many as they are. */
     private static void lack() {
-        THE.says(ASKED, "LACK: the fewest PERSONS who have, together, fewer THINGS that aren't FORBIDDEN for some of them "
-                + "than they are");
+        THE.says(ASKED, "LACK: the fewest PERSONS who have, together, fewer THINGS that aren't FORBIDDEN for some of "
+                + "them than they are");
         for (int many = 1; many <= 8; many++) {
             BidMarket x = Check.market(8);
             for (int i = 0; i < 64; i++) {
@@ -258,8 +259,8 @@ public final class TermsAskedTest {
     }
 
     private static void fitsByWorth() {
-        THE.says(ASKED, "FITS of a PERSON and a THING: how many of WORTHS 0, 10, 20 .. 90 there are by which, were that its "
-                + "WORTH,");
+        THE.says(ASKED, "FITS of a PERSON and a THING: how many of WORTHS 0, 10, 20 .. 90 there are by which, were "
+                + "that its WORTH,");
         for (int below = 0; below <= 9; below++) {
             for (int by = -1; by <= 1; by++) {
                 int other = Math.max(0, 10 * below + by);
@@ -342,8 +343,8 @@ public final class TermsAskedTest {
     }
 
     private static void oddsOfNone() {
-        THE.says(ASKED, "how likely it is that behind an AUCTION it has what it has now (none, too): a fraction in lowest "
-                + "terms");
+        THE.says(ASKED, "how likely it is that behind an AUCTION it has what it has now (none, too): a fraction in "
+                + "lowest terms");
         BidMarket x = outbidUpTo(4);
         THE.due("it has none now, never then", x.odds(0, 0), 0);
         THE.due("it has none now, never then", x.odds(0, 1), 1);

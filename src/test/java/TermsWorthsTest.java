@@ -1,4 +1,4 @@
-/** The first part of the document's Terms by its own words: who and what there is, bids, auctions, texts, what is wrong. */
+/** The first part of the document's Terms by its own words: numbers, bids, auctions, texts, what is wrong last. */
 public final class TermsWorthsTest {
     private static final int NONE = BidMarket.NONE, BAD = BidMarket.BAD, FULL = BidMarket.FULL;
     private static final String HERE = "Terms 1";
@@ -106,7 +106,8 @@ public final class TermsWorthsTest {
             THE.due("1 by " + n, x.of(0, 0, 1), n + 1);
             x.bid();
             int price = x.thing(0, 0);
-            THE.says(HERE, "GAIN of a PERSON by a THING that is not FORBIDDEN: n and 1 times its WORTH, less its PRICE");
+            THE.says(HERE, "GAIN of a PERSON by a THING that is not FORBIDDEN: n and 1 times its WORTH, less its "
+                    + "PRICE");
             THE.due("less its price", x.of(0, 0, 1), n + 1 - price);
             THE.due("price", price, n == 1 ? 105 : n + 1 + 5);
             x.worth(0, 0, -1);
@@ -186,8 +187,8 @@ public final class TermsWorthsTest {
     }
 
     private static void bid() {
-        THE.says(HERE, "A BID by a PERSON that has none and has a BEST THING: PRICE of that is more by GAIN of BEST less "
-                + "SECOND, and STEP");
+        THE.says(HERE, "A BID by a PERSON that has none and has a BEST THING: PRICE of that is more by GAIN of BEST "
+                + "less SECOND, and STEP");
         for (int step = 1; step <= 50; step++) {
             BidMarket x = Check.market(2, 10, 4);
             x.step(step);
@@ -367,8 +368,8 @@ public final class TermsWorthsTest {
         String[] signs = {"abcdefgh", "01234567", "=!", "0123456789", "0123456789;", ";", ";", "abcdefgh", "01234567",
             "0123456789", "0123456789;"};
         int[] whole = {0, 0, 0, 0, 1, 1, 1, 1, 1, 1, 2};
-        String[] words = {"a PERSON (a letter a .. h)", "a THING (a digit 0 .. 7)", "then = and a WORTH (1 or 2 digits), or ! "
-                + "(it is FORBIDDEN)", "then = and a WORTH (1 or 2 digits), or ! (it is FORBIDDEN)"};
+        String worth = "then = and a WORTH (1 or 2 digits), or ! (it is FORBIDDEN)";
+        String[] words = {"a PERSON (a letter a .. h)", "a THING (a digit 0 .. 7)", worth, worth};
         for (int k = 0; k < starts.length; k++) {
             for (int sign = 0; sign < 128; sign++) {
                 BidMarket x = new BidMarket();
@@ -390,7 +391,7 @@ public final class TermsWorthsTest {
             }
         }
         BidMarket y = new BidMarket();
-        THE.says(HERE, "then = and a WORTH (1 or 2 digits), or ! (it is FORBIDDEN)");
+        THE.says(HERE, worth);
         for (int v = 0; v <= 99; v++) {
             THE.due("c1=" + v, Check.readText(y, "c1=" + v), 1);
             THE.due("of(2, 1, 0)", y.of(2, 1, 0), v);
@@ -469,7 +470,8 @@ public final class TermsWorthsTest {
     }
 
     private static void worthTakesAway() {
-        THE.says(HERE, "As a WORTH becomes another (or the same again, or FORBIDDEN), its PERSON has none; PRICES stay");
+        THE.says(HERE, "As a WORTH becomes another (or the same again, or FORBIDDEN), its PERSON has none; PRICES "
+                + "stay");
         String[] texts = {"c1=7", "c1=0", "c1!", "c0!;c0=0", "c2=99"};
         for (int i = 0; i < 2 * texts.length; i++) {
             BidMarket x = new BidMarket();
@@ -552,7 +554,8 @@ public final class TermsWorthsTest {
     private static void wrongOfTexts() {
         BidMarket x = new BidMarket();
         String[] ends = {"?", "d", "a3"};
-        String[] kinds = {"1 a byte that can't stand there (or it ends too early)", "2 no such PERSON", "3 no such THING"};
+        String[] kinds = {"1 a byte that can't stand there (or it ends too early)", "2 no such PERSON",
+            "3 no such THING"};
         for (int clauses = 0; clauses <= 15; clauses++) {
             String whole = "b2=34;".repeat(clauses);
             for (int k = 0; k < 3; k++) {
@@ -586,8 +589,8 @@ public final class TermsWorthsTest {
     }
 
     private static void wrongOfLack() {
-        THE.says(HERE, "5 who has none has no BEST THING (with 200 and the least such as CAUSE, and this with 300 and how "
-                + "many such there are)");
+        THE.says(HERE, "5 who has none has no BEST THING (with 200 and the least such as CAUSE, and this with 300 and "
+                + "how many such there are)");
         for (int set = 1; set < 256; set++) {
             BidMarket x = Check.market(8);
             for (int i = 0; i < 64; i++) {

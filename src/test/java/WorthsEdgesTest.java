@@ -270,6 +270,8 @@ public final class WorthsEdgesTest {
         THE.due("of(2, 1, 0)", x.of(2, 1, 0), 0);
         THE.says(7, "1 GAIN (NO: FORBIDDEN)");
         THE.due("40 less 33", x.of(0, 0, 1), 7);
+        THE.due("20 less 18", x.of(0, 1, 1), 2);
+        THE.due("40 less 33", x.of(2, 0, 1), 7);
         THE.due("0 less 18", x.of(2, 1, 1), -18);
         THE.due("of(1, 2, 1)", x.of(1, 2, 1), NO);
         for (int n = 1; n <= 8; n++) {
