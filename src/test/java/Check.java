@@ -1,7 +1,26 @@
 /** Looks at answers, prints those that are not as due, and ends the test with exit code 1 if there was one. */
 final class Check {
+    private static final int LONGEST_SECONDS = 600;
+
     private int looked = 0;
     private int wrong = 0;
+
+    Check() {
+        Thread watch = new Thread(Check::endWhatDoesNotEnd);
+        watch.setDaemon(true);
+        watch.start();
+    }
+
+    /** A program that hangs in a call must fail its test, not stop all of them. */
+    private static void endWhatDoesNotEnd() {
+        try {
+            Thread.sleep(LONGEST_SECONDS * 1000L);
+        } catch (InterruptedException e) {
+            return;
+        }
+        System.out.println("the test has not ended after " + LONGEST_SECONDS + " seconds");
+        Runtime.getRuntime().halt(1);
+    }
 
     void due(int promise, String call, long got, long want) {
         due("promise " + promise, call, got, want);

@@ -84,7 +84,10 @@ final class States {
         }
     }
 
-    /** A single THING, had by nobody, whose PRICE comes to be as told: each BID makes it more by 101 .. 150. */
+    /**
+     * A single THING, had by nobody, whose PRICE comes to be as told: each BID makes it more by 101 .. 150, so it can't
+     * be one of 1 .. 100, 151 .. 201.
+     */
     static BidMarket priced(int price) {
         BidMarket x = Check.market(1, 0);
         for (int now = 0; now < price; now = x.thing(0, 0)) {

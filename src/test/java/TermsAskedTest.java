@@ -161,6 +161,12 @@ public final class TermsAskedTest {
         THE.due("but what is forbidden", x.person(1, 2), 3);
         THE.due("0 is not greater", x.person(2, 2), 0);
         THE.due("all are forbidden", x.person(3, 2), 0);
+        BidMarket z = States.priced(101);
+        z.worth(0, 0, 51);
+        THE.due("102 less 101 is greater", z.person(0, 2), 1);
+        z = States.priced(102);
+        z.worth(0, 0, 51);
+        THE.due("102 less 102 is not", z.person(0, 2), 0);
         THE.says(ASKED, "ENVY of a PERSON: how many THINGS there are, not FORBIDDEN, by which GAIN is greater than by "
                 + "its own");
         x.bid();
@@ -173,6 +179,11 @@ public final class TermsAskedTest {
         y.bid();
         THE.due("15 less 2 is not greater", y.person(0, 2), 0);
         THE.due("14 is greater than 13", y.person(1, 2), 1);
+        BidMarket u = new BidMarket();
+        States.BROKEN.follow(u);
+        THE.due("-2100 is its own, the other is forbidden", u.person(1, 2), 0);
+        u.bid();
+        THE.due("-2250 is its own, the other is forbidden", u.person(0, 2), 0);
     }
 
     /** For each number of PERSONS: so many for one THING less, and of any fewer of them as many as they are. */

@@ -398,6 +398,8 @@ public final class TermsWorthsTest {
             if (v < 10) {
                 Check.readText(y, "c1!");
                 THE.due("of(2, 1, 0)", y.of(2, 1, 0), -5);
+                THE.due("of(2, 1, 1)", y.of(2, 1, 1), BidMarket.NO);
+                THE.due("person(2, 3)", y.person(2, 3), 2);
                 THE.due("c1=0" + v, Check.readText(y, "c1=0" + v), 1);
                 THE.due("of(2, 1, 0)", y.of(2, 1, 0), v);
             }
@@ -595,7 +597,7 @@ public final class TermsWorthsTest {
             BidMarket x = Check.market(8);
             for (int i = 0; i < 64; i++) {
                 boolean lacks = (set >> i / 8 & 1) == 1;
-                x.worth(i / 8, i % 8, lacks || i / 8 != i % 8 ? -1 : 3);
+                x.worth(i / 8, i % 8, lacks || (i / 8 + 3) % 8 != i % 8 ? -1 : 3);
             }
             THE.due("auction()", x.auction(), 8 - Integer.bitCount(set));
             THE.due("wrong(0)", x.wrong(0), 5);
