@@ -8,6 +8,7 @@ import java.util.regex.Pattern;
 /** The words of ../shared/DOC.md, place by place: "Promise 7", "Terms 2", "Answers". */
 final class Document {
     private static final Path FILE = Path.of("../shared/DOC.md");
+    private static final String WHOLE = isThere() ? wholeText() : "";
 
     private Document() {
     }
@@ -30,7 +31,7 @@ final class Document {
             head = "\n" + place + ":";
             end = "\n\n";
         }
-        Matcher m = Pattern.compile(head + "(.*?)(?:" + end + "|\\z)", Pattern.DOTALL).matcher(wholeText());
+        Matcher m = Pattern.compile(head + "(.*?)(?:" + end + "|\\z)", Pattern.DOTALL).matcher(WHOLE);
         return m.find() ? m.group(1).replaceAll("```(text)?", " ").replaceAll("\\s+", " ").trim() : "";
     }
 

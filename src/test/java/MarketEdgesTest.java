@@ -18,7 +18,7 @@ public final class MarketEdgesTest {
         toldNone();
         wrong();
         wrongNone();
-        THE.finish();
+        THE.finishPromises(10, 16);
     }
 
     /** Both PERSONS may have but THING 0: each BID makes its PRICE more by 100 and STEP. */

@@ -25,7 +25,7 @@ public final class SeenEdgesTest {
         bookRefuses();
         looked();
         lookedAtTheLastRow();
-        THE.finish();
+        THE.finishPromises(17, 24);
     }
 
     private static void see() {

@@ -50,7 +50,20 @@ final class Sentences {
         check.holds(by + ": " + call + " changes nothing", before.equals(after));
     }
 
-    void finish() {
+    /** Each of these promises must have been tested. */
+    void finishPromises(int first, int last) {
+        String[] places = new String[last - first + 1];
+        for (int k = 0; k < places.length; k++) {
+            places[k] = "Promise " + (first + k);
+        }
+        finish(places);
+    }
+
+    /** Each of these places must have been tested. */
+    void finish(String... places) {
+        for (String place : places) {
+            check.holds(place + " is tested", !Document.isThere() || untested.containsKey(place));
+        }
         untested.forEach((place, rest) -> {
             String left = rest.replaceAll("[^\\p{L}\\p{N}]+", " ").trim();
             check.holds(place + " has words without a test: " + left, left.isEmpty());

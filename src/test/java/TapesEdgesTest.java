@@ -26,7 +26,7 @@ public final class TapesEdgesTest {
         shiftOverItself();
         shiftRefuses();
         shiftPlaces();
-        THE.finish();
+        THE.finishPromises(25, 32);
     }
 
     private static void judge() {

@@ -35,7 +35,7 @@ public final class TermsAskedTest {
         hostRefuses();
         answers();
         theFirstRefusal();
-        THE.finish();
+        THE.finish(ASKED, HOST, ANSWERS);
     }
 
     /** Every call that asks, one behind the other, leaves each state as it was. */

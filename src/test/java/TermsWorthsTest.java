@@ -34,7 +34,7 @@ public final class TermsWorthsTest {
         wrongOfTexts();
         wrongOfBroken();
         wrongOfLack();
-        THE.finish();
+        THE.finish(HERE);
     }
 
     private static void numbers() {

@@ -26,7 +26,7 @@ public final class WorthsEdgesTest {
         personNone();
         thing();
         thingNone();
-        THE.finish();
+        THE.finishPromises(1, 9);
     }
 
     private static void aNewObject() {
