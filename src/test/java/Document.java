@@ -2,6 +2,10 @@ import java.io.IOException;
 import java.io.UncheckedIOException;
 import java.nio.file.Files;
 import java.nio.file.Path;
+import java.util.Arrays;
+import java.util.LinkedHashMap;
+import java.util.List;
+import java.util.Map;
 import java.util.regex.Matcher;
 import java.util.regex.Pattern;
 
@@ -33,6 +37,16 @@ final class Document {
         }
         Matcher m = Pattern.compile(head + "(.*?)(?:" + end + "|\\z)", Pattern.DOTALL).matcher(WHOLE);
         return m.find() ? m.group(1).replaceAll("```(text)?", " ").replaceAll("\\s+", " ").trim() : "";
+    }
+
+    /** The groups that the interface names ahead of its calls, and the calls of each. */
+    static Map<String, List<String>> groups() {
+        Map<String, List<String>> groups = new LinkedHashMap<>();
+        Matcher m = Pattern.compile("Ahead of the calls `([^\n]*)` the interface says: ---- ([^\n]*)\\.").matcher(WHOLE);
+        while (m.find()) {
+            groups.put(m.group(2), Arrays.asList(m.group(1).split("`, `")));
+        }
+        return groups;
     }
 
     private static String wholeText() {

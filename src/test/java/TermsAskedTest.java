@@ -28,6 +28,7 @@ public final class TermsAskedTest {
         ends();
         book();
         looked();
+        lookedBehindOtherSizes();
         theImage();
         theImageLeaves();
         tapesHold();
@@ -482,6 +483,27 @@ public final class TermsAskedTest {
         x.worth(0, 7, 99);
         x.bid();
         THE.due("otherwise now", x.looked(), 0);
+    }
+
+    /** However n becomes another, the BOOK becomes one whose THINGS there are: empty, or that of the IMAGE. */
+    private static void lookedBehindOtherSizes() {
+        THE.says(ASKED, "(no such THING any more, too; -5: none)");
+        for (int n = 1; n <= 8; n++) {
+            for (int other = 1; other <= 8; other++) {
+                BidMarket x = Check.market(n);
+                x.book(n - 1, 0);
+                x.book(n - 1, 5);
+                THE.due("the second of " + n, x.looked(), 1);
+                x.image();
+                x.size(other);
+                THE.due(other + " behind " + n + ": no row", x.looked(), -5);
+                x.book(other - 1, 1);
+                THE.due(other + " behind " + n + ": a row of its own", x.looked(), 0);
+                x.undo();
+                THE.due(n + " behind " + other + ": as the image", x.looked(), 1);
+                THE.due(n + " behind " + other + ": its rows", x.count(3), 2);
+            }
+        }
     }
 
     private static void theImage() {

@@ -26,6 +26,9 @@ public final class TermsWorthsTest {
         textOfEachNumber();
         faultAtTheEnd();
         faultOfANumber();
+        faultIsTheFirst();
+        faultAheadOfTheEnd();
+        clausesAreWhole();
         oneBehindTheOther();
         worthTakesAway();
         wrongAtFirst();
@@ -456,6 +459,70 @@ public final class TermsWorthsTest {
         x.size(2);
         THE.due("there is none when it is read", x.read(), -10);
         THE.due("wrong(0)", x.wrong(0), 2);
+    }
+
+    /** Two faults in one text, each ahead of each: the first from the left is the FAULT, of whichever kind it is. */
+    private static void faultIsTheFirst() {
+        String[] pieces = {"?", ";", "A0=1", "i0=1", "d0=1", "d7=1", "d9=1", "a3=1", "a8=1", "a0?", "a0=?", "a0=1?",
+            "a0=123", "a0!1"};
+        int[] kinds = {1, 1, 1, 1, 2, 2, 2, 3, 1, 1, 1, 1, 1, 1};
+        int[] places = {0, 0, 0, 0, 0, 0, 0, 1, 1, 2, 3, 4, 5, 3};
+        int[] whole = {0, 0, 0, 0, 0, 0, 0, 0, 0, 0, 0, 1, 1, 1};
+        for (int i = 0; i < pieces.length; i++) {
+            for (String later : pieces) {
+                for (int ahead = 0; ahead <= 2; ahead++) {
+                    BidMarket x = new BidMarket();
+                    String text = "b2=34;".repeat(ahead) + pieces[i] + ";" + later;
+                    THE.says(HERE, kinds[i] == 1 ? "The FAULT: the place of the first byte with which none begins so"
+                            : "or of the letter, the digit, of a PERSON, a THING that there isn't");
+                    THE.due("read() of " + text, Check.readText(x, text), -10 - 6 * ahead - places[i]);
+                    THE.due("wrong(0) by " + text, x.wrong(0), kinds[i]);
+                    THE.says(HERE, "(each with 100 and how many CLAUSES are whole ahead of the FAULT as CAUSE)");
+                    THE.due("wrong(1) by " + text, x.wrong(1), 100 + ahead + whole[i]);
+                    THE.due("wrong(2) by " + text, x.wrong(2), -5);
+                    THE.due("no worth by " + text, x.of(1, 2, 0), 0);
+                }
+            }
+        }
+    }
+
+    /** A text that ends too early behind a number that isn't there: that number is ahead of the end. */
+    private static void faultAheadOfTheEnd() {
+        String[] numbers = {"d0=12", "d3=12", "a3=12"};
+        int[] places = {0, 0, 1};
+        for (int k = 0; k < numbers.length; k++) {
+            for (int length = places[k] + 1; length <= 5; length++) {
+                BidMarket x = new BidMarket();
+                String text = "c1!;" + numbers[k].substring(0, length);
+                THE.says(HERE, "or of the letter, the digit, of a PERSON, a THING that there isn't");
+                THE.due("read() of " + text, Check.readText(x, text), -10 - 4 - places[k]);
+                THE.says(HERE, k == 2 ? "3 no such THING" : "2 no such PERSON");
+                THE.due("wrong(0) by " + text, x.wrong(0), k == 2 ? 3 : 2);
+                THE.due("wrong(1) by " + text, x.wrong(1), 101);
+            }
+        }
+    }
+
+    /** Behind so many CLAUSES each sign that can't stand there: the last CLAUSE is whole without a ; behind it. */
+    private static void clausesAreWhole() {
+        String[] last = {"a0=1", "a0=12", "a0!"};
+        for (String clause : last) {
+            for (int clauses = 1; clauses <= 16; clauses++) {
+                String text = "b2=3;".repeat(clauses - 1) + clause;
+                for (int sign = 0; sign < 128; sign++) {
+                    boolean goesOn = clause.equals("a0=1") && sign >= '0' && sign <= '9';
+                    boolean between = sign == ';' && clauses < 16;
+                    if (!goesOn) {
+                        BidMarket x = new BidMarket();
+                        THE.says(HERE, "The FAULT: the place of the first byte with which none begins so");
+                        THE.due("read() of " + text + " and " + sign, Check.readText(x, text + (char) sign),
+                                -10 - text.length() - (between ? 1 : 0));
+                        THE.says(HERE, "(each with 100 and how many CLAUSES are whole ahead of the FAULT as CAUSE)");
+                        THE.due("wrong(1)", x.wrong(1), 100 + clauses);
+                    }
+                }
+            }
+        }
     }
 
     private static void oneBehindTheOther() {
